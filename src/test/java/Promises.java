@@ -152,23 +152,29 @@ public final class Promises {
                 due(7, "way " + w + " " + what, x.way(w, what), due[w][what]);
             }
         }
+        allFree();
         x.slow(1, 3, 9);
         due(7, "the slow line of the tree", x.way(2, 3), 2 * 9 * 9 + 2 * 18);
         due(7, "round 0 is longest then", x.way(2, 4), 0);
         due(7, "machine 1 is busiest then", x.way(2, 5), 1);
+        due(7, "UNKNOWN", x.way(4, 0), SumsForAll.UNKNOWN);
+        due(7, "UNKNOWN goes first", x.way(-1, 6), SumsForAll.UNKNOWN);
+        due(7, "OUTSIDE", x.way(0, 6), SumsForAll.OUTSIDE);
+        due(7, "OUTSIDE", x.way(0, -1), SumsForAll.OUTSIDE);
+        waysOfAllSizes();
+    }
+
+    private static void allFree() {
+        SumsForAll x = new SumsForAll();
+        due(7, "before", x.way(2, 4), 1);
         x.rule(1, 0);
         x.rule(2, 0);
         due(7, "all free", x.way(2, 3), 0);
         due(7, "all free: first round", x.way(2, 4), 0);
         due(7, "all free: least machine", x.way(2, 5), 0);
-        due(7, "UNKNOWN", x.way(4, 0), SumsForAll.UNKNOWN);
-        due(7, "UNKNOWN goes first", x.way(-1, 6), SumsForAll.UNKNOWN);
-        due(7, "OUTSIDE", x.way(0, 6), SumsForAll.OUTSIDE);
-        due(7, "OUTSIDE", x.way(0, -1), SumsForAll.OUTSIDE);
-        treesOfAllSizes();
     }
 
-    private static void treesOfAllSizes() {
+    private static void waysOfAllSizes() {
         int[] rounds = {2, 2, 4, 4, 4, 4, 6, 6};
         int[] halves = {2, 4, 4, 6, 6, 6, 6, 8};
         for (int many = 2; many <= 9; many++) {
@@ -334,7 +340,7 @@ public final class Promises {
         due(12, "best of 1", x.best(1, 0), 2);
         due(12, "its time", x.best(1, 1), 12);
         x.rule(1, 0);
-        // 4: all need 8; the first is the ring. 5: ring and halves 2 and 3, twice: 10; as the others.
+        // Without START all need twice the size; the first is the ring.
         due(12, "all the same: the first", x.best(4, 0), 0);
         due(12, "its time", x.best(4, 1), 8);
         due(12, "most", x.best(99, 1), 198);
@@ -361,9 +367,20 @@ public final class Promises {
         x.rule(1, 0);
         due(13, "all is free", x.from(3, 1), SumsForAll.NONE);
         due(13, "size stays", x.count(1), 4);
+        fromTheLastSize();
         due(13, "UNKNOWN", x.from(4, 0), SumsForAll.UNKNOWN);
         due(13, "UNKNOWN", x.from(0, 4), SumsForAll.UNKNOWN);
         due(13, "UNKNOWN", x.from(-1, HIGH), SumsForAll.UNKNOWN);
+    }
+
+    /** Three machines: ring 4 times (2 START and two parts), each 4 times (START and s). */
+    private static void fromTheLastSize() {
+        SumsForAll x = with(3, 1);
+        // s = 98: 64 and 33 and 33 against 32 and 98: the same. s = 99: 64 and 66 against 131.
+        x.rule(1, 32);
+        due(13, "the last size", x.from(0, 3), 99);
+        x.rule(1, 33);
+        due(13, "no size any more", x.from(0, 3), SumsForAll.NONE);
     }
 
     private static void promise14() {

@@ -14,6 +14,11 @@ final class Check {
         }
     }
 
+    /** A sentence of the document, by the number of the promise for which it is asked. */
+    static void due(int promise, String sentence, String call, long got, long want) {
+        due("promise " + promise + " (" + sentence + "): " + call, got, want);
+    }
+
     static boolean allAsDue() {
         return wrong == 0;
     }

@@ -3,6 +3,7 @@ import java.util.Random;
 /** Runs of calls, right and wrong ones, on the class and on the model side by side. */
 public final class AgainstModel {
     private static final int CALLS = 512;
+    private static final int LETTERS_AT_ONCE = 40;
 
     private AgainstModel() {
     }
@@ -19,10 +20,25 @@ public final class AgainstModel {
         Check.finish();
     }
 
+    /** An object is used for at most 512 calls, so some letters, and the numbers of a machine, have an object each. */
     private static void everyAnswer(int many, int size) {
+        for (int w = 0; w < 4; w++) {
+            Run ways = filled(many, size);
+            ways.everyWhat(w);
+            int letters = ways.lettersOf(w);
+            for (int k = -1; k <= letters; k += LETTERS_AT_ONCE) {
+                filled(many, size).everyLetter(w, k, Math.min(letters, k + LETTERS_AT_ONCE - 1));
+            }
+            for (int m = 0; m < many; m++) {
+                filled(many, size).everyNumber(w, m, size);
+            }
+        }
+    }
+
+    private static Run filled(int many, int size) {
         Run run = new Run(new Random(many * 100 + size), "many " + many + " size " + size);
         run.fill(many, size);
-        run.everyLetter(many, size);
+        return run;
     }
 
     private static final class Run {
@@ -57,28 +73,30 @@ public final class AgainstModel {
             }
         }
 
-        void everyLetter(int many, int size) {
-            for (int w = 0; w < 4; w++) {
-                for (int what = 0; what < 6; what++) {
-                    due("way " + w + " " + what, x.way(w, what), y.way(w, what));
-                }
-                int letters = y.way(w, 1);
-                for (int k = -1; k <= letters; k++) {
-                    for (int what = 0; what < 7; what++) {
-                        due("letter " + w + " " + k + " " + what, x.letter(w, k, what), y.letter(w, k, what));
-                    }
-                }
-                everyNumber(w, many, size);
+        int lettersOf(int w) {
+            return y.way(w, 1);
+        }
+
+        void everyWhat(int w) {
+            for (int what = 0; what < 6; what++) {
+                due("way " + w + " " + what, x.way(w, what), y.way(w, what));
             }
         }
 
-        private void everyNumber(int w, int many, int size) {
-            for (int m = 0; m < many; m++) {
-                for (int p = 0; p < size; p++) {
-                    String call = " " + w + " machine " + m + " place " + p;
-                    due("comes 0" + call, x.comes(w, m, p, 0), y.comes(w, m, p, 0));
-                    due("comes 1" + call, x.comes(w, m, p, 1), y.comes(w, m, p, 1));
-                    int r = random.nextInt(y.way(w, 0) + 2);
+        void everyLetter(int w, int first, int last) {
+            for (int k = first; k <= last; k++) {
+                for (int what = 0; what < 7; what++) {
+                    due("letter " + w + " " + k + " " + what, x.letter(w, k, what), y.letter(w, k, what));
+                }
+            }
+        }
+
+        void everyNumber(int w, int m, int size) {
+            for (int p = 0; p < size; p++) {
+                String call = " " + w + " machine " + m + " place " + p;
+                due("comes 0" + call, x.comes(w, m, p, 0), y.comes(w, m, p, 0));
+                due("comes 1" + call, x.comes(w, m, p, 1), y.comes(w, m, p, 1));
+                for (int r = 0; r <= y.way(w, 0) + 1; r++) {
                     due("behind " + r + call, x.behind(w, r, m, p), y.behind(w, r, m, p));
                 }
             }

@@ -96,6 +96,10 @@ public final class BoundsOfWays {
         Check.due(7, told, "halves: 0 and 3", x.way(HALVES, 4), 0);
         Check.due(7, told, "tree: 1 and 2", x.way(TREE, 4), 1);
         Check.due(7, told, "each: both", x.way(EACH, 4), 0);
+        Check.due(7, told, "tree: 1 and 2", x.way(TREE, 4), 1);
+        x.rule(1, 0);
+        x.rule(2, 0);
+        Check.due(7, told, "tree: all take no time", x.way(TREE, 4), 0);
         // Of 3 machines one number goes 2 to 0, 0 to 1, 1 to 2, 2 to 0; without START it alone has a price.
         SumsForAll y = with(3, 1);
         y.rule(1, 0);

@@ -31,6 +31,9 @@ public final class BoundsOfPrices {
         edgesOfSpans();
         emptySpansHaveNoPlace();
         addsAndSets();
+        timesAreAsThingsAreWhenAsked();
+        lossesAreAsThingsAreWhenAsked();
+        placesAreAsThingsAreWhenAsked();
         Check.finish();
     }
 
@@ -397,5 +400,79 @@ public final class BoundsOfPrices {
         }
         Check.due(16, told, "halves, to 8", x.comes(HALVES, 8, 11, 0), 0);
         Check.due(16, told, "halves, to 8", x.comes(HALVES, 8, 11, 1), 1);
+    }
+
+    private static void timesAreAsThingsAreWhenAsked() {
+        String told = "all that is told is as things are when it is asked";
+        SumsForAll x = with(3, 2);
+        x.image(0);
+        // Of s numbers: halves 30 and 4 times s, tree and each 20 and 4 times s; the ring, of 2 numbers, 4 times 12.
+        dueTimes(told, x, TREE, 28, 1);
+        x.rule(1, 0);
+        dueTimes(told + ": START", x, RING, 8, NONE);
+        x.slow(0, 1, 2);
+        // The ring takes 2, 3, 3 and 2; of s numbers halves s, 2 s, 2 s and s, each 3 s and 3 s.
+        dueTimes(told + ": SLOW", x, RING, 10, NONE);
+        x.slow(0, 2, 2);
+        // From 2 to 0 twice as long, too: the ring takes 3, 4, 3 and 3; halves 2 s each time, each 4 s and 4 s.
+        dueTimes(told + ": SLOW of another line", x, RING, 13, NONE);
+        x.rule(2, 0);
+        dueTimes(told + ": EACH", x, RING, 0, NONE);
+        x.restore(0);
+        dueTimes(told + ": restore", x, TREE, 28, 1);
+        x.machines(2, 12);
+        // Each and tree take 2 times 5 and s, halves 2 times 10 and s.
+        dueTimes(told + ": machines", x, TREE, 14, 1);
+    }
+
+    private static void dueTimes(String told, SumsForAll x, int best, int time, int fromEachToHalves) {
+        Check.due(12, told, "best(2, 0)", x.best(2, 0), best);
+        Check.due(12, told, "best(2, 1)", x.best(2, 1), time);
+        Check.due(13, told, "from(3, 1)", x.from(EACH, HALVES), fromEachToHalves);
+    }
+
+    private static void lossesAreAsThingsAreWhenAsked() {
+        String told = "all that is told is as things are when it is asked";
+        SumsForAll x = with(3, 2);
+        dueLosses(told, x, 0, 0, 0, 4);
+        x.put(1, 0, 7);
+        // 1 and 0 lose nothing by the letter of 0 to 1, which brings 1 the 7 that it has, nor by that of 2, which is 0.
+        dueLosses(told + ": put", x, 7, 3, 0, 2);
+        x.image(1);
+        x.rule(0, 2);
+        dueLosses(told + ": OP", x, 7, 3, 0, 0);
+        x.rule(0, 1);
+        x.put(0, 0, 7);
+        // Only 2 still needs a letter, the last one.
+        dueLosses(told + ": OP, put", x, 0, 1, 3, 3);
+        x.restore(1);
+        dueLosses(told + ": restore", x, 7, 3, 0, 2);
+        x.machines(4, 1);
+        dueLosses(told + ": machines", x, 0, 0, 0, 6);
+    }
+
+    private static void dueLosses(String told, SumsForAll x, int setOf0, int most, int worst, int harmless) {
+        Check.due(14, told, "lost(3, 0, 0)", x.lost(EACH, 0, 0), setOf0);
+        Check.due(15, told, "worst(3, 0)", x.worst(EACH, 0), worst);
+        Check.due(15, told, "worst(3, 1)", x.worst(EACH, 1), most);
+        Check.due(15, told, "worst(3, 2)", x.worst(EACH, 2), harmless);
+    }
+
+    private static void placesAreAsThingsAreWhenAsked() {
+        String told = "all that is told is as things are when it is asked";
+        SumsForAll x = with(3, 2);
+        Check.due(16, told, "to 0", x.comes(EACH, 0, 1, 0), 2);
+        x.image(0);
+        x.machines(5, 2);
+        Check.due(16, told, "to 0, machines", x.comes(EACH, 0, 1, 0), 4);
+        x.machines(5, 1);
+        Check.due(16, told, "to 0, size", x.comes(EACH, 0, 1, 0), OUTSIDE);
+        // What is asked of 99 places leaves the ways of one place as they are.
+        x.best(99, 0);
+        x.from(RING, HALVES);
+        Check.due(16, told, "to 0, behind best and from", x.comes(EACH, 0, 1, 0), OUTSIDE);
+        Check.due(8, told, "letter, behind best and from", x.letter(EACH, 0, 4), 1);
+        x.restore(0);
+        Check.due(16, told, "to 0, restore", x.comes(EACH, 0, 1, 0), 2);
     }
 }

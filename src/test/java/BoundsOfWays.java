@@ -43,6 +43,7 @@ public final class BoundsOfWays {
         twoWaysOrOne();
         oneOtherPlaceIsEnough();
         asThingsAreWhenAsked();
+        endsAreAsThingsAreWhenAsked();
         Check.finish();
     }
 
@@ -501,5 +502,29 @@ public final class BoundsOfWays {
         x.restore(0);
         Check.due(7, told, "way, restore", x.way(EACH, 3), 80);
         Check.due(9, told, "behind, restore", x.behind(EACH, 2, 2, 0), 217);
+    }
+
+    private static void endsAreAsThingsAreWhenAsked() {
+        String told = "all that is told is as things are when it is asked";
+        SumsForAll x = with(3, 2);
+        x.put(1, 0, 7);
+        dueEndOfRing(told + ": added", x, 2, 1);
+        x.image(1);
+        x.rule(0, 2);
+        // In the ring place 0 is mixed from machine 1 on: 31 times 217, left over by 997; by rising machines it is 217.
+        dueEndOfRing(told + ": OP", x, 1, 0);
+        x.put(1, 0, 0);
+        dueEndOfRing(told + ": put", x, 2, 1);
+        x.put(2, 1, 1);
+        dueEndOfRing(told + ": put elsewhere", x, 1, 0);
+        x.restore(1);
+        dueEndOfRing(told + ": restore", x, 2, 1);
+        x.machines(2, 1);
+        dueEndOfRing(told + ": machines", x, 1, 1);
+    }
+
+    private static void dueEndOfRing(String told, SumsForAll x, int places, int likeEach) {
+        Check.due(10, told, "same(0, 1)", x.same(RING, 1), places);
+        Check.due(11, told, "alike(0, 3)", x.alike(RING, EACH), likeEach);
     }
 }

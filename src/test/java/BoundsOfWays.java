@@ -525,6 +525,8 @@ public final class BoundsOfWays {
 
     private static void dueEndOfRing(String told, SumsForAll x, int places, int likeEach) {
         Check.due(10, told, "same(0, 1)", x.same(RING, 1), places);
+        // By the way of each the numbers are mixed by rising machines, so it holds at all places by any OP.
+        Check.due(10, told, "same(3, 1)", x.same(EACH, 1), x.count(1));
         Check.due(11, told, "alike(0, 3)", x.alike(RING, EACH), likeEach);
     }
 }
